@@ -10,7 +10,7 @@ import java.util.Random;
 
 /** Runs of calls drawn from fixed seeds: ReliefDesk must answer each as PlainDesk does, and throw nothing else. */
 public final class AgainstPlainTest {
-    private static final int RUNS = 400;
+    private static final int RUNS = 600;
     private static final int CALLS = 512;
 
     /* Per method the kinds of its arguments: see draw(). */
@@ -20,10 +20,15 @@ public final class AgainstPlainTest {
         "claimed CW", "claimAll", "result PR", "own MMED", "relief IJ", "solved W", "reached", "left P", "pays MW",
         "balance M", "owes MM", "settles", "settling KW", "tax M", "without M", "worth IJN", "lack IJN", "byCarry B",
         "carried W", "route K", "steps MMD", "byGate G", "gateFor T", "days MMW", "ifFirst PF", "dearest",
-        "chance SHW", "undo", "keep", "back", "count W"
+        "chance SHW", "undo", "keep", "back", "count O"
     };
-    /* Calls that change what stands come more often than the rest. */
-    private static final String[] OFTEN = {"claim IJN", "withdraw C", "own MMED", "result PR", "undo", "claimAll"};
+    /* Calls that change what stands come more often than the rest: each run has one of these moods. */
+    private static final String[][] OFTEN = {
+        {"claim IJN", "withdraw C", "own MMED", "result PR", "undo", "claimAll"},
+        {"claim IJ1", "claim IJ1", "claim IJ1", "claim IJ1", "claim IJ1", "claim IJN", "withdraw C", "chance SHW"},
+        {"claim IJN", "own MMED", "own MMED", "own MMED", "relief IJ", "without M"},
+        {"claim IJN", "result PR", "undo", "route K", "solved W", "reached", "worth IJN", "lack IJN"}
+    };
 
     private final Random random;
     private final int run;
@@ -65,11 +70,12 @@ public final class AgainstPlainTest {
 
     private int play() {
         int calls = 0;
+        int patience = run % 3 == 0 ? 40 : 150;
         while (calls < CALLS && wrong < 5) {
-            if (calls == 0 || random.nextInt(60) == 0) {
+            if (calls == 0 || random.nextInt(patience) == 0) {
                 calls += tell();
             }
-            String[] face = random.nextInt(3) == 0 ? OFTEN : FACE;
+            String[] face = random.nextInt(3) == 0 ? OFTEN[run % OFTEN.length] : FACE;
             ask(face[random.nextInt(face.length)]);
             calls++;
         }
@@ -79,7 +85,7 @@ public final class AgainstPlainTest {
     // ---- texts ----
 
     private int tell() {
-        String text = random.nextInt(12) == 0 ? soup() : order();
+        String text = random.nextInt(12) == 0 ? soup() : random.nextInt(3) == 0 ? order() : family();
         if (random.nextInt(4) == 0) {
             text = spoil(text);
         }
@@ -151,6 +157,38 @@ public final class AgainstPlainTest {
         return text.toString();
     }
 
+    /** A TEXT in which one owns most of all, with PERIODS that lie side by side: many LINKS, long ROUTES. */
+    private String family() {
+        StringBuilder text = new StringBuilder();
+        int members = 4 + upTo(4);
+        List<String> lines = new ArrayList<>();
+        for (int m = 0; m < members; m++) {
+            text.append("member ").append((char) ('a' + m)).append(" ").append(upTo(99)).append(" ").append(upTo(99)).append(";");
+        }
+        for (int m = 1; m < members; m++) {
+            int owner = random.nextInt(4) == 0 ? random.nextInt(m) : 0;
+            int day = random.nextInt(4) == 0 ? upTo(12) : 0;
+            lines.add("owns " + (char) ('a' + owner) + " " + (char) ('a' + m) + " " + (88 + upTo(12)) + " " + day + ";");
+        }
+        int periods = Math.min(12, members + upTo(6));
+        int size = new int[] {9, 500, 5000, 99999}[random.nextInt(4)];
+        for (int k = 0; k < periods; k++) {
+            int late = k / members;
+            int first = late * 20 + upTo(8);
+            int last = first + upTo(11);
+            boolean loss = random.nextInt(5) == 0 ? random.nextBoolean() : k % 2 == late % 2;
+            lines.add("period " + (char) ('a' + k % members) + " " + first + " " + last + " " + (loss ? "-" : "")
+                + (1 + upTo(size - 1)) + ";");
+        }
+        setting(lines, "gate", 60 + upTo(30), 2);
+        setting(lines, "price", upTo(2), 5);
+        setting(lines, "carry", 1, 3);
+        setting(lines, "seed", upTo(99999), 2);
+        java.util.Collections.shuffle(lines, random);
+        lines.forEach(text::append);
+        return text.toString();
+    }
+
     private void setting(List<String> lines, String word, int value, int outOfSix) {
         if (random.nextInt(6) < outOfSix) {
             lines.add(word + " " + value + ";");
@@ -214,9 +252,11 @@ public final class AgainstPlainTest {
             case 'J': return signed(1);
             case 'D': return random.nextInt(25) == 0 ? upTo(1003) - 2 : random.nextBoolean() ? upTo(999) : upTo(50);
             case 'E': return random.nextInt(25) == 0 ? upTo(103) - 1 : random.nextBoolean() ? 100 - upTo(30) : upTo(100);
-            case 'W': return upTo(12) - 1;
+            case 'W': return upTo(random.nextInt(8) == 0 ? 8 : 4) - (random.nextInt(8) == 0 ? 1 : 0);
+            case 'O': return upTo(12) - 1;
             case 'N': return random.nextInt(20) == 0 ? 99999 + upTo(1) : random.nextInt(8) == 0 ? upTo(99999)
                 : random.nextBoolean() ? upTo(300) : upTo(12);
+            case '1': return 1 + upTo(2);
             case 'R': return (random.nextBoolean() ? 1 : -1) * (random.nextBoolean() ? upTo(1000) : upTo(99999));
             case 'C': return upTo(plain.s.claims.size() + 1) - 1;
             case 'K': return upTo(9) - 1;
