@@ -147,7 +147,7 @@ public final class ReliefDesk {
     }
 
     public int share(int a, int b, int day) {
-        if (!book.hasMember(a) || !book.hasMember(b) || !isDay(day)) {
+        if (!areMembers(a, b) || !isDay(day)) {
             return NONE;
         }
         shares.load(book, day);
@@ -155,7 +155,7 @@ public final class ReliefDesk {
     }
 
     public int parts(int a, int b, int day) {
-        if (!book.hasMember(a) || !book.hasMember(b) || !isDay(day)) {
+        if (!areMembers(a, b) || !isDay(day)) {
             return NONE;
         }
         shares.load(book, day);
@@ -202,7 +202,7 @@ public final class ReliefDesk {
     }
 
     public int steps(int a, int b, int day) {
-        if (!book.hasMember(a) || !book.hasMember(b) || !isDay(day)) {
+        if (!areMembers(a, b) || !isDay(day)) {
             return NONE;
         }
         shares.load(book, day);
@@ -785,8 +785,12 @@ public final class ReliefDesk {
         return Math.abs(book.results[period]) - ledger.takenOf(period);
     }
 
+    private boolean areMembers(int a, int b) {
+        return book.hasMember(a) && book.hasMember(b);
+    }
+
     private boolean isPair(int a, int b) {
-        return a != b && book.hasMember(a) && book.hasMember(b);
+        return a != b && areMembers(a, b);
     }
 
     private static boolean isDay(int day) {
@@ -1372,7 +1376,7 @@ public final class ReliefDesk {
         boolean kept = false;
     }
 
-    /** PERCENT, SHARE and who CONTROLS whom on one DAY, as tables of eight by eight. */
+    /** PERCENT, SHARE and who CONTROLS whom on one DAY, as tables of eight by eight; owners have the lesser numbers. */
     private static final class Shares {
         final int[] percents = new int[MAX_MEMBERS * MAX_MEMBERS];
         final int[] since = new int[MAX_MEMBERS * MAX_MEMBERS];
@@ -1390,9 +1394,11 @@ public final class ReliefDesk {
         }
 
         private void loadPercents(Parts told, int day) {
-            for (int at = 0; at < percents.length; at++) {
-                percents[at] = 0;
-                since[at] = -1;
+            for (int a = 0; a < members; a++) {
+                for (int b = a + 1; b < members; b++) {
+                    percents[a * MAX_MEMBERS + b] = 0;
+                    since[a * MAX_MEMBERS + b] = -1;
+                }
             }
             for (int k = 0; k < told.count; k++) {
                 int at = told.owners[k] * MAX_MEMBERS + told.owned[k];
@@ -1405,9 +1411,6 @@ public final class ReliefDesk {
 
         private void loadParts(int a) {
             int row = a * MAX_MEMBERS;
-            for (int b = 0; b < a; b++) {
-                parts[row + b] = 0f;
-            }
             parts[row + a] = 1f;
             for (int b = a + 1; b < members; b++) {
                 float sum = 0f;

@@ -24,6 +24,7 @@ public final class PromisesTest {
         partsOnDays();
         floats();
         relatives();
+        manyStretches();
         links();
         claims();
         claimLimits();
@@ -204,6 +205,7 @@ public final class PromisesTest {
         fault("price 3;", 2, 6);
         fault("carry 1;", 0, -1);
         fault("carry 2;", 2, 6);
+        fault("seed 0;price 0;carry 0;", 0, -1);
         fault("seed 99999;", 0, -1);
         fault("seed 100000;", 2, 5);
         fault("member a 99 99;", 0, -1);
@@ -342,6 +344,9 @@ public final class PromisesTest {
         due("the short way", x.steps(0, 2, 999), 1);
         due("own 0 percent", x.own(0, 2, 0, 30), 6);
         due("0 percent is no step", x.steps(0, 2, 999), 2);
+        ReliefDesk far = desk("member a 0 0;member b 0 0;member c 0 0;member d 0 0;member e 0 0;"
+            + "owns a b 9 0;owns b c 9 0;owns a d 9 0;owns c e 9 0;owns d e 9 0;");
+        due("three steps first, then two", far.steps(0, 4, 0), 2);
         due("no member", x.steps(0, 3, 0), -1);
         due("no member", x.steps(-1, 0, 0), -1);
         due("no day", x.steps(0, 0, 1000), -1);
@@ -431,6 +436,24 @@ public final class PromisesTest {
         due("first of two stretches", x.days(0, 2, 0), 10);
         due("last of two stretches", x.days(0, 2, 1), 999);
         due("days of two stretches", x.days(0, 2, 2), 920);
+    }
+
+    private static void manyStretches() {
+        promise = 23;
+        ReliefDesk x = desk("member a 0 0;member b 0 0;period a 0 999 -1000;period b 0 999 1000;");
+        for (int k = 1; k <= 24; k++) {
+            due("own on a day of its own", x.own(0, 1, k % 2 == 1 ? 80 : 70, 961 - 40 * k), k);
+        }
+        promise = 14;
+        due("from 921 on 79 days, from 841 .. 41 on 40 days each", x.shared(0, 1), 79 + 40 * 11);
+        promise = 43;
+        due("first", x.days(0, 1, 0), 41);
+        due("last", x.days(0, 1, 1), 999);
+        due("how many", x.days(0, 1, 2), 519);
+        promise = 12;
+        for (int k = 1; k <= 24; k++) {
+            due("related", x.related(0, 961 - 40 * k), k % 2 == 1 ? 2 : 0);
+        }
     }
 
     private static void links() {
@@ -717,6 +740,17 @@ public final class PromisesTest {
         due("no what", x.settling(0, 3), -1);
         due("NONE goes first", x.settling(3, 3), -1);
         due("no what", x.settling(0, -1), -1);
+        ReliefDesk like = desk(SQUARE);
+        like.result(1, 0);
+        like.result(2, 50);
+        like.result(3, 50);
+        due("of like ones the first pays first", like.settling(0, 0), 2);
+        due("then the next", like.settling(1, 0), 3);
+        due("as much", like.settling(1, 2), 5);
+        like = desk("member a 10 0;member b 10 0;member c 0 0;owns a b 100 0;owns a c 100 0;"
+            + "period a 0 9 -50;period b 0 9 -50;period c 0 9 100;");
+        due("of like ones the first is paid first", like.settling(0, 1), 0);
+        due("then the next", like.settling(1, 1), 1);
         promise = 33;
         x = desk("member a 10 99;member b 20 33;owns a b 100 0;period a 0 9 -100;period b 0 9 105;period b 10 19 8;period a 10 10 -3;"
             + "period b 20 20 2;");
@@ -835,6 +869,14 @@ public final class PromisesTest {
         due("no gate", x.byGate(101), -1);
         due("gate as it was", x.count(4), 75);
         due("links as they were", x.bound(0, 1), 0);
+        ReliefDesk direct = desk("gate 50;member a 0 0;member b 0 0;owns a b 60 0;period a 0 9 -100;period b 0 9 30;");
+        due("asked ahead of all else", direct.byGate(60), 30);
+        promise = 37;
+        direct = desk("gate 50;member a 0 0;member b 0 0;owns a b 60 0;period a 0 9 -100;period b 0 9 30;");
+        due("asked ahead of all else", direct.byCarry(0), 30);
+        promise = 44;
+        direct = desk("gate 50;member a 0 0;member b 0 0;owns a b 60 0;period a 0 9 -100;period b 0 9 30;");
+        due("asked ahead of all else", direct.ifFirst(1, 0), 30);
         promise = 42;
         due("nothing wanted", x.gateFor(0), 100);
         due("1", x.gateFor(1), 80);
@@ -954,9 +996,15 @@ public final class PromisesTest {
         due("20 at most", x.count(8), 20);
         for (int k = 19; k >= 0; k--) {
             due("undo", x.undo(), k);
+            due("the result ahead of it", x.period(0, 3), -5 - k);
         }
         due("the earlier ones stay", x.period(0, 3), -5);
         due("none could", x.undo(), -1);
+        ReliefDesk y = desk("member a 0 0;member b 0 0;");
+        due("the first own", y.own(0, 1, 80, 0), 1);
+        due("undone", y.undo(), 0);
+        due("no owns", y.count(2), 0);
+        due("no percent", y.percent(0, 1, 999), 0);
         x.claimAll();
         x.result(2, 1);
         due("claimAll undone as one", x.undo(), 0);
@@ -986,6 +1034,18 @@ public final class PromisesTest {
         x.withdraw(0);
         due("it stays", x.back(), 1);
         due("claims again", x.count(3), 1);
+        x.own(0, 1, 10, 3);
+        x.keep();
+        x.undo();
+        x.own(2, 3, 20, 4);
+        x.back();
+        due("parts as in the image", x.percent(0, 1, 3), 10);
+        due("no other parts", x.percent(2, 3, 4), 0);
+        x = desk(SQUARE);
+        x.claim(0, 2, 10);
+        x.result(3, 77);
+        x.own(0, 1, 60, 3);
+        x.keep();
         promise = 48;
         x.claim(1, 2, 5);
         due("in place of the one ahead", x.keep(), 2);
