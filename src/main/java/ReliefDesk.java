@@ -1045,8 +1045,9 @@ public final class ReliefDesk {
         }
 
         private boolean expectMember(Book book) {
-            if (!expect(NAME)) {
-                return false;
+            next();
+            if (kind != NAME) {
+                return fail(OUT_OF_PLACE);
             }
             value = book.find(value);
             return value >= 0 || fail(NOT_TOLD);
@@ -1189,23 +1190,11 @@ public final class ReliefDesk {
                 kind = END;
             } else if (isLetter(sign)) {
                 readWord();
-            } else if (isDigit(sign)) {
-                kind = DIGITS;
-                value = readDigits();
+            } else if (isDigit(sign) || sign == '-') {
+                readNumber();
             } else {
+                kind = sign == ';' ? SEMICOLON : NO_TOKEN;
                 at++;
-                readSign(sign);
-            }
-        }
-
-        private void readSign(int sign) {
-            if (sign == ';') {
-                kind = SEMICOLON;
-            } else if (sign == '-' && isDigit(sign())) {
-                kind = NEGATIVE;
-                value = -readDigits();
-            } else {
-                kind = NO_TOKEN;
             }
         }
 
@@ -1230,7 +1219,15 @@ public final class ReliefDesk {
         }
 
         /* Beyond every limit of the document a number need not grow, and so cannot wrap around. */
-        private int readDigits() {
+        private void readNumber() {
+            boolean below = sign() == '-';
+            if (below) {
+                at++;
+            }
+            kind = below ? NEGATIVE : DIGITS;
+            if (!isDigit(sign())) {
+                kind = NO_TOKEN;
+            }
             int number = 0;
             for (int k = 0; k < MAX_TAPE && isDigit(sign()); k++) {
                 if (number < 1000000) {
@@ -1238,7 +1235,7 @@ public final class ReliefDesk {
                 }
                 at++;
             }
-            return number;
+            value = below ? -number : number;
         }
 
         private int sign() {

@@ -5,9 +5,13 @@ import java.lang.reflect.Modifier;
 import java.nio.file.Files;
 import java.nio.file.Path;
 import java.util.ArrayList;
+import java.util.HashMap;
 import java.util.HashSet;
 import java.util.List;
+import java.util.Map;
 import java.util.Set;
+import java.util.regex.Matcher;
+import java.util.regex.Pattern;
 
 /** What of LANGUAGE.md can be seen from outside: the face, the words of the source, the length of its methods. */
 public final class RulesTest {
@@ -15,6 +19,9 @@ public final class RulesTest {
         "Exact(", "Float.", "Double.", "Math.floor(", "Math.round(", "String ", "Object", "System.out", "System.nano",
         "Random", "Thread", "hashCode", "getMessage", "import java.util.*", "static {", "float[][]", "protected ");
     private static final int LONGEST_METHOD = 60;
+    private static final int DEEPEST_CALL = 8;
+    private static final String METHOD = "( {4}| {8})(public|private|static|final|int|void|boolean|long).*\\(.*\\{";
+    private static final Pattern CALL = Pattern.compile("(\\w+)\\(");
     private static int wrong = 0;
 
     public static void main(String[] args) throws Exception {
@@ -22,6 +29,7 @@ public final class RulesTest {
         face();
         words(Files.readAllLines(source));
         methodLengths(Files.readAllLines(source));
+        callDepths(Files.readAllLines(source));
         System.out.println(wrong == 0 ? "the rules are kept" : wrong + " rules are not kept");
         if (wrong != 0) {
             System.exit(1);
@@ -57,6 +65,11 @@ public final class RulesTest {
         if (made.length != 1 || made[0].getParameterCount() != 0 || !Modifier.isPublic(made[0].getModifiers())) {
             say("rule 1: the constructor");
         }
+        for (Method m : ReliefDesk.class.getDeclaredMethods()) {
+            if (!Modifier.isPublic(m.getModifiers()) && names.contains(m.getName())) {
+                say("rule 1: the private " + m.getName() + " bears the name of a public one");
+            }
+        }
         Class<?>[] inside = ReliefDesk.class.getDeclaredClasses();
         if (inside.length > 11) {
             say("rule 11: " + inside.length + " classes inside");
@@ -69,14 +82,21 @@ public final class RulesTest {
                 if (names.contains(m.getName())) {
                     say("rule 1: " + m.getName() + " of " + c.getName() + " bears the name of a public one");
                 }
-                if (m.getParameterCount() > 7) {
-                    say("rule 11: " + m.getName() + " has too many parameters");
-                }
             }
-            long fields = List.of(c.getDeclaredFields()).stream().filter(f -> !Modifier.isStatic(f.getModifiers())).count();
-            if (fields > 20) {
-                say("rule 11: " + c.getName() + " has " + fields + " fields");
+            sizes(c);
+        }
+        sizes(ReliefDesk.class);
+    }
+
+    private static void sizes(Class<?> c) {
+        for (Method m : c.getDeclaredMethods()) {
+            if (m.getParameterCount() > 7) {
+                say("rule 11: " + m.getName() + " has too many parameters");
             }
+        }
+        long fields = List.of(c.getDeclaredFields()).stream().filter(f -> !Modifier.isStatic(f.getModifiers())).count();
+        if (fields > 20) {
+            say("rule 11: " + c.getName() + " has " + fields + " fields");
         }
     }
 
@@ -108,7 +128,7 @@ public final class RulesTest {
         String in = "";
         for (int k = 0; k < lines.size(); k++) {
             String line = lines.get(k);
-            if (line.matches("( {4}| {8})(public|private|static|final|int|void|boolean|long).*\\(.*\\{")) {
+            if (line.matches(METHOD)) {
                 start = k;
                 in = line.substring(0, line.length() - line.stripLeading().length());
             } else if (start >= 0 && line.equals(in + "}")) {
@@ -118,5 +138,36 @@ public final class RulesTest {
                 start = -1;
             }
         }
+    }
+
+    /* Methods of one name count as one: that never makes a depth look less than it is. */
+    private static void callDepths(List<String> lines) {
+        Map<String, Set<String>> calls = new HashMap<>();
+        String in = "";
+        for (String line : lines) {
+            Matcher m = CALL.matcher(line);
+            if (line.matches(METHOD) && m.find()) {
+                in = m.group(1);
+                calls.putIfAbsent(in, new HashSet<>());
+            }
+            while (!line.trim().startsWith("*") && !line.trim().startsWith("/") && m.find()) {
+                calls.getOrDefault(in, new HashSet<>()).add(m.group(1));
+            }
+        }
+        for (String name : calls.keySet()) {
+            String chain = deepest(name, calls, 0);
+            if (chain.split(" ").length > DEEPEST_CALL) {
+                say("rule 11: calls go too deep: " + chain);
+            }
+        }
+    }
+
+    private static String deepest(String name, Map<String, Set<String>> calls, int depth) {
+        String best = "";
+        for (String callee : calls.get(name)) {
+            String below = calls.containsKey(callee) && depth < 20 ? deepest(callee, calls, depth + 1) : "";
+            best = below.split(" ").length > best.split(" ").length || best.isEmpty() ? below : best;
+        }
+        return best.isEmpty() ? name : name + " " + best;
     }
 }
