@@ -61,6 +61,7 @@ public final class EdgesTest {
         manyDays();
         askedBetween();
         askedFirst();
+        refusedQuestions();
         BENCH.end(1, Bench.PROMISES);
     }
 
@@ -1622,5 +1623,37 @@ public final class EdgesTest {
             long answer = Bench.call(desk(SQUARE), row[1].split(" ")[0], numbersOf(row[1]));
             due(row[1] + " ahead of all else", answer, Long.parseLong(row[2]));
         }
+    }
+
+    /** Every question that is refused, one behind another on one desk: all stays as on its twin. */
+    private static void refusedQuestions() {
+        String[][] refused = {
+            {"4", "fault 2", "-1"}, {"5", "named 0", "-1"}, {"6", "member 4 0", "-71"}, {"6", "member 0 3", "-72"},
+            {"7", "period 4 0", "-999999"}, {"7", "period 0 6", "-999999"}, {"8", "percent 0 0 0", "-1"},
+            {"8", "percent 0 1 1000", "-1"}, {"9", "share 4 0 0", "-1"}, {"10", "parts 0 0 -1", "-1"},
+            {"11", "controls 1 1 0", "-1"}, {"12", "related 4 0", "-1"}, {"13", "groups 1000", "-1"}, {"14", "shared 0 0", "-1"},
+            {"15", "bound 2 0", "-1"}, {"16", "room 2 0", "-1"}, {"17", "price 2 0", "-1"}, {"20", "claimed 2 0", "-1"},
+            {"20", "claimed 0 4", "-1"}, {"24", "relief 2 0", "-1"}, {"25", "solved 4", "-1"}, {"27", "left 4", "-1"},
+            {"28", "pays 4 0", "-1"}, {"28", "pays 0 4", "-1"}, {"29", "balance 4", "-9999999"}, {"30", "owes 0 0", "-9999999"},
+            {"32", "settling 9 0", "-2"}, {"32", "settling 0 3", "-1"}, {"33", "tax 4", "-1"}, {"34", "without 4", "-1"},
+            {"35", "worth 2 0 1", "-1"}, {"35", "worth 0 2 0", "-1"}, {"36", "lack 2 0 1", "-1"}, {"36", "lack 0 2 100000", "-1"},
+            {"37", "byCarry 2", "-1"}, {"38", "carried 4", "-1"}, {"39", "route 12", "-2"}, {"39", "route -1", "-1"},
+            {"40", "steps 3 0 0", "-2"}, {"40", "steps 0 0 1000", "-1"}, {"41", "byGate 0", "-1"}, {"41", "byGate 101", "-1"},
+            {"42", "gateFor 9999999", "-2"}, {"42", "gateFor -1", "-1"}, {"43", "days 0 0 0", "-1"}, {"43", "days 0 1 3", "-1"},
+            {"44", "ifFirst 0 10", "-1"}, {"44", "ifFirst 4 0", "-1"}, {"46", "chance -2 1 0", "-1"}, {"46", "chance 0 61 0", "-1"},
+            {"46", "chance 0 1 3", "-1"}, {"50", "count 11", "-1"}
+        };
+        ReliefDesk x = busy();
+        for (String[] row : refused) {
+            BENCH.takes(Integer.parseInt(row[0]));
+            due(row[1], Bench.call(x, row[1].split(" ")[0], numbersOf(row[1])), Long.parseLong(row[2]));
+        }
+        BENCH.same("all that is refused", x, busy());
+        BENCH.takes(1);
+        ReliefDesk empty = new ReliefDesk();
+        for (String[] row : refused) {
+            Bench.call(empty, row[1].split(" ")[0], numbersOf(row[1]));
+        }
+        BENCH.same("all that is refused", empty, new ReliefDesk());
     }
 }
